@@ -103,16 +103,7 @@ public final class OrdersTest {
 
     private static void leastWithRefuses() {
         RankFusion x = Check.ring();
-        int[] noDocument = {4, 5, 6, 32, -1, Integer.MIN_VALUE, Integer.MAX_VALUE};
-        for (int d = 0; d < 4; d++) {
-            Check.due("leastWith(" + d + ", " + d + ")", x.leastWith(d, d), RankFusion.NONE);
-            for (int no : noDocument) {
-                Check.due("leastWith(" + d + ", " + no + ")", x.leastWith(d, no), RankFusion.NONE);
-                Check.due("leastWith(" + no + ", " + d + ")", x.leastWith(no, d), RankFusion.NONE);
-            }
-        }
-        Check.due("leastWith(-1, -1)", x.leastWith(-1, -1), RankFusion.NONE);
-        Check.due("leastWith(4, 5)", x.leastWith(4, 5), RankFusion.NONE);
+        Check.refusesPairs("leastWith", 4, x::leastWith);
     }
 
     private static void queriesLeaveNoTrace() {

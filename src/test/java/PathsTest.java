@@ -94,16 +94,7 @@ public final class PathsTest {
 
     private static void strengthRefuses() {
         RankFusion x = Check.ring();
-        int[] noDocument = {4, 5, 6, 36, -1, Integer.MIN_VALUE, Integer.MAX_VALUE};
-        for (int d = 0; d < 4; d++) {
-            Check.due("strength(" + d + ", " + d + ")", x.strength(d, d), RankFusion.NONE);
-            for (int no : noDocument) {
-                Check.due("strength(" + d + ", " + no + ")", x.strength(d, no), RankFusion.NONE);
-                Check.due("strength(" + no + ", " + d + ")", x.strength(no, d), RankFusion.NONE);
-            }
-        }
-        Check.due("strength(-1, -1)", x.strength(-1, -1), RankFusion.NONE);
-        Check.due("strength(4, 5)", x.strength(4, 5), RankFusion.NONE);
+        Check.refusesPairs("strength", 4, x::strength);
     }
 
     private static void pathWinnersByTie() {

@@ -42,16 +42,7 @@ public final class ScoresTest {
 
     private static void prefersRefuses() {
         RankFusion x = Check.ring();
-        int[] noDocument = {4, 5, 6, -1, Integer.MIN_VALUE, Integer.MAX_VALUE};
-        for (int d = 0; d < 4; d++) {
-            Check.due("prefers(" + d + ", " + d + ")", x.prefers(d, d), RankFusion.NONE);
-            for (int no : noDocument) {
-                Check.due("prefers(" + d + ", " + no + ")", x.prefers(d, no), RankFusion.NONE);
-                Check.due("prefers(" + no + ", " + d + ")", x.prefers(no, d), RankFusion.NONE);
-            }
-        }
-        Check.due("prefers(-1, -1)", x.prefers(-1, -1), RankFusion.NONE);
-        Check.due("prefers(4, 5)", x.prefers(4, 5), RankFusion.NONE);
+        Check.refusesPairs("prefers", 4, x::prefers);
     }
 
     private static void scoresOfTheRing() {

@@ -1,5 +1,3 @@
-import java.util.function.IntBinaryOperator;
-
 /** What the tests share: comparing answers, and making objects with rankings in them. */
 final class Check {
     private static int wrong = 0;
@@ -36,25 +34,6 @@ final class Check {
         rank(x, 3, 1, 2, 0, 3);
         rank(x, 4, 2, 0, 1, 3);
         return x;
-    }
-
-    /** A question about two documents must answer NONE where they are the same or one is none. */
-    static void refusesPairs(String call, int documents, IntBinaryOperator question) {
-        int[] none = {documents, documents + 1, 6, 32, 36, -1, Integer.MIN_VALUE, Integer.MAX_VALUE};
-        for (int no : none) {
-            for (int d = 0; d < documents; d++) {
-                refusesPair(call, d, d, question);
-                refusesPair(call, d, no, question);
-                refusesPair(call, no, d, question);
-            }
-            for (int other : none) {
-                refusesPair(call, no, other, question);
-            }
-        }
-    }
-
-    private static void refusesPair(String call, int a, int b, IntBinaryOperator question) {
-        due(call + "(" + a + ", " + b + ")", question.applyAsInt(a, b), RankFusion.NONE);
     }
 
     static void end() {

@@ -103,7 +103,7 @@ public final class OrdersTest {
 
     private static void leastWithRefuses() {
         RankFusion x = Check.ring();
-        Check.refusesPairs("leastWith", 4, x::leastWith);
+        Bounds.refusesPairs("leastWith", 4, x::leastWith);
     }
 
     private static void queriesLeaveNoTrace() {

@@ -94,7 +94,7 @@ public final class PathsTest {
 
     private static void strengthRefuses() {
         RankFusion x = Check.ring();
-        Check.refusesPairs("strength", 4, x::strength);
+        Bounds.refusesPairs("strength", 4, x::strength);
     }
 
     private static void pathWinnersByTie() {

@@ -42,7 +42,7 @@ public final class ScoresTest {
 
     private static void prefersRefuses() {
         RankFusion x = Check.ring();
-        Check.refusesPairs("prefers", 4, x::prefers);
+        Bounds.refusesPairs("prefers", 4, x::prefers);
     }
 
     private static void scoresOfTheRing() {

@@ -34,6 +34,7 @@ public final class BoundsOfRankingsTest {
         refusedQuestionsChangeNothing();
         questionsChangeNothing();
         everyCallIsRightAsTheLastOne();
+        sameQuestionUpToTheLastCall();
         changesUpToTheLastCall();
         nameAsTheLastCall();
         callsAfterTheLastOneStillEnd();
@@ -477,6 +478,28 @@ public final class BoundsOfRankingsTest {
         }
         Check.due("rankings() as call 511 after " + kind, x.rankings(), 3);
         Check.due(call + " as call 512 after " + kind, last.applyAsInt(x), want);
+    }
+
+    /** The same sentence for one question that is asked again and again. */
+    private static void sameQuestionUpToTheLastCall() {
+        upToTheLastCall("rankings()", RankFusion::rankings, 3);
+        upToTheLastCall("prefers(2, 0)", x -> x.prefers(2, 0), 7);
+        upToTheLastCall("least()", RankFusion::least, 10);
+        upToTheLastCall("bestAt(1)", x -> x.bestAt(1), 0);
+        upToTheLastCall("leastWith(3, 2)", x -> x.leastWith(3, 2), 23);
+        upToTheLastCall("score(3)", x -> x.score(3), -27);
+        upToTheLastCall("scoreAt(2)", x -> x.scoreAt(2), 1);
+        upToTheLastCall("champion()", RankFusion::champion, RankFusion.NONE);
+        upToTheLastCall("topSet()", RankFusion::topSet, 7);
+        upToTheLastCall("strength(1, 0)", x -> x.strength(1, 0), 5);
+        upToTheLastCall("pathWinners()", RankFusion::pathWinners, 4);
+    }
+
+    private static void upToTheLastCall(String call, ToIntFunction<RankFusion> question, int want) {
+        RankFusion x = Check.ring();
+        for (int made = CALLS_OF_RING + 1; made <= CALLS; made++) {
+            Check.due(call + " as call " + made, question.applyAsInt(x), want);
+        }
     }
 
     /** The same sentence for changes: 512 calls of which three in four change the object. */

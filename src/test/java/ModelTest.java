@@ -32,9 +32,28 @@ public final class ModelTest {
     private static void runOne(String run, RankFusion x, Model model) {
         for (int i = 0; i < CHANGES; i++) {
             change(run + " change " + i, x, model);
+            askSome(run + " change " + i, x, model);
         }
-        // 80 calls so far, and at most 4 + 8 * 3 + 64 * 3 questions: within the 512 calls.
+        // 240 calls so far, and at most 4 + 8 * 3 + 64 * 3 questions: within the 512 calls.
         ask(run, x, model);
+    }
+
+    /** Four questions between changes, so that an answer left over from before one is found. */
+    private static void askSome(String run, RankFusion x, Model model) {
+        int a = next(model.documents);
+        int b = next(model.documents);
+        model.tryAllOrders();
+        switch (next(3)) {
+            case 0 -> askTop(run, x, model);
+            case 1 -> {
+                askOne(run, x, model, a);
+                Check.due(run + " least()", x.least(), model.least);
+            }
+            default -> {
+                askPair(run, x, model, a, b);
+                Check.due(run + " least()", x.least(), model.least);
+            }
+        }
     }
 
     private static void change(String run, RankFusion x, Model model) {
@@ -55,21 +74,29 @@ public final class ModelTest {
 
     private static void ask(String run, RankFusion x, Model model) {
         model.tryAllOrders();
-        Check.due(run + " least()", x.least(), model.least);
-        Check.due(run + " champion()", x.champion(), model.champion());
-        Check.due(run + " topSet()", x.topSet(), model.topSet());
-        Check.due(run + " pathWinners()", x.pathWinners(), model.pathWinners());
+        askTop(run, x, model);
         for (int a = -1; a <= model.documents; a++) {
-            boolean known = model.isDocument(a);
-            int best = known ? model.best[a] : RankFusion.NONE;
-            Check.due(run + " bestAt(" + a + ")", x.bestAt(a), best);
-            Check.due(run + " score(" + a + ")", x.score(a), known ? model.score(a) : -1000);
-            int scored = known ? model.scoreOrder().get(a) : RankFusion.NONE;
-            Check.due(run + " scoreAt(" + a + ")", x.scoreAt(a), scored);
+            askOne(run, x, model, a);
             for (int b = -1; b <= model.documents; b++) {
                 askPair(run, x, model, a, b);
             }
         }
+    }
+
+    private static void askTop(String run, RankFusion x, Model model) {
+        Check.due(run + " least()", x.least(), model.least);
+        Check.due(run + " champion()", x.champion(), model.champion());
+        Check.due(run + " topSet()", x.topSet(), model.topSet());
+        Check.due(run + " pathWinners()", x.pathWinners(), model.pathWinners());
+    }
+
+    private static void askOne(String run, RankFusion x, Model model, int a) {
+        boolean known = model.isDocument(a);
+        int best = known ? model.best[a] : RankFusion.NONE;
+        Check.due(run + " bestAt(" + a + ")", x.bestAt(a), best);
+        Check.due(run + " score(" + a + ")", x.score(a), known ? model.score(a) : -1000);
+        int scored = known ? model.scoreOrder().get(a) : RankFusion.NONE;
+        Check.due(run + " scoreAt(" + a + ")", x.scoreAt(a), scored);
     }
 
     private static void askPair(String run, RankFusion x, Model model, int a, int b) {

@@ -7,6 +7,9 @@ public final class OrdersTest {
         ordersOfTheRing();
         orderOfOneRanking();
         greatestDistance();
+        farthestLeast();
+        farthestLeastWith();
+        orderHoldsEveryDocumentOnce();
         leastOfSeveralBestOrders();
         bestOrderIsNotTheScoreOrder();
         bestAtRefuses();
@@ -21,6 +24,12 @@ public final class OrdersTest {
         }
     }
 
+    /**
+     * Terms: "An ORDER is a list of all documents, each once." and "Its DISTANCE is the sum of
+     * prefers(b, a) over all pairs of documents a, b of which a comes before b in it."
+     * Promise 7: "The least distance of an order."
+     * Promise 9: "The least distance of an order in which a comes before b"
+     */
     private static void ordersOfTheRing() {
         RankFusion x = Check.ring();
         // 2 0 1 costs prefers(0, 2) + prefers(1, 2) + prefers(1, 0) = 2 + 5 + 3.
@@ -37,6 +46,10 @@ public final class OrdersTest {
         Check.due("leastWith(3, 2)", x.leastWith(3, 2), 14 + 9);
     }
 
+    /**
+     * Promise 8: "The document at place k (0 the first) of the BEST ORDER: of the orders with the least
+     * distance, the least in the dictionary order."
+     */
     private static void orderOfOneRanking() {
         RankFusion x = new RankFusion(6);
         Check.rank(x, 3, 4, 0, 5);
@@ -48,6 +61,7 @@ public final class OrdersTest {
         Check.due("leastWith(1, 4)", x.leastWith(1, 4), 9);
     }
 
+    /** Promises 7 and 9: "The least distance of an order" where it is great. */
     private static void greatestDistance() {
         RankFusion x = new RankFusion(6);
         for (int k = 0; k < 5; k++) {
@@ -67,6 +81,49 @@ public final class OrdersTest {
         Check.due("leastWith(0, 5) of three against two", x.leastWith(0, 5), 15 * 18 + 5 * 9);
     }
 
+    /** Promise 7 with rings among six documents: a search found no rankings with a greater answer. */
+    private static void farthestLeast() {
+        RankFusion x = new RankFusion(6);
+        Check.rank(x, 9, 3, 0, 4, 5, 1, 2);
+        Check.rank(x, 9, 1, 4, 3, 2, 5, 0);
+        Check.rank(x, 9, 2, 5, 1, 4, 0, 3);
+        Check.rank(x, 9, 3, 0, 4, 2, 1, 5);
+        Check.rank(x, 9, 5, 0, 2, 1, 4, 3);
+        Check.due("least(), the greatest found", x.least(), 306);
+    }
+
+    /** Promise 9 in the same way. */
+    private static void farthestLeastWith() {
+        RankFusion x = new RankFusion(6);
+        Check.rank(x, 9, 3, 5, 4, 0, 1, 2);
+        Check.rank(x, 9, 1, 2, 4, 5, 3, 0);
+        Check.rank(x, 9, 5, 3, 0, 4, 1, 2);
+        Check.rank(x, 9, 4, 5, 2, 1, 3, 0);
+        Check.rank(x, 9, 2, 1, 5, 0, 3, 4);
+        Check.due("leastWith(0, 5), the greatest found", x.leastWith(0, 5), 342);
+    }
+
+    /** Terms: "An ORDER is a list of all documents, each once.", and its distance is the least one. */
+    private static void orderHoldsEveryDocumentOnce() {
+        for (int documents = 2; documents <= 6; documents++) {
+            for (int rankings = 0; rankings <= 5; rankings++) {
+                RankFusion x = Bounds.some(documents, rankings);
+                int seen = 0;
+                int distance = 0;
+                for (int k = 0; k < documents; k++) {
+                    seen |= 1 << x.bestAt(k);
+                    for (int before = 0; before < k; before++) {
+                        distance += x.prefers(x.bestAt(k), x.bestAt(before));
+                    }
+                }
+                String what = documents + " documents, " + rankings + " rankings";
+                Check.due("all places of the best order, " + what, seen, (1 << documents) - 1);
+                Check.due("distance of the best order, " + what, distance, x.least());
+            }
+        }
+    }
+
+    /** Promise 8: "of the orders with the least distance, the least in the dictionary order." */
     private static void leastOfSeveralBestOrders() {
         RankFusion x = new RankFusion(5);
         Check.rank(x, 6, 4, 3, 2, 1, 0);
@@ -83,6 +140,7 @@ public final class OrdersTest {
         dueOrder("4 over 1", y, 0, 2, 3, 4, 1);
     }
 
+    /** Promises 8 and 11: the two orders are not the same. */
     private static void bestOrderIsNotTheScoreOrder() {
         RankFusion x = new RankFusion(3);
         Check.rank(x, 3, 0, 1, 2);
@@ -93,6 +151,7 @@ public final class OrdersTest {
         Check.due("least()", x.least(), 4);
     }
 
+    /** Promise 8: "NONE when k is not 0 .. documents - 1." */
     private static void bestAtRefuses() {
         RankFusion x = Check.ring();
         int[] noPlace = {4, 5, 6, 64, -1, Integer.MIN_VALUE, Integer.MAX_VALUE};
@@ -101,11 +160,13 @@ public final class OrdersTest {
         }
     }
 
+    /** Promise 9: "NONE when a = b, or a or b is no document." */
     private static void leastWithRefuses() {
         RankFusion x = Check.ring();
         Bounds.refusesPairs("leastWith", 4, x::leastWith);
     }
 
+    /** Promises 7 to 9: what one of these questions finds is not what the next one answers. */
     private static void queriesLeaveNoTrace() {
         RankFusion x = Check.ring();
         Check.due("leastWith(3, 2)", x.leastWith(3, 2), 23);

@@ -23,6 +23,7 @@ public final class RankingsTest {
         Check.end();
     }
 
+    /** Promise 1: "No rankings." */
     private static void newObject() {
         RankFusion x = new RankFusion(3);
         Check.due("new rankings()", x.rankings(), 0);
@@ -42,6 +43,10 @@ public final class RankingsTest {
         }
     }
 
+    /**
+     * Promise 1: "documents: clamped to 2 .. 6."
+     * Terms: "There are documents 0 .. documents - 1."
+     */
     private static void documentsAreClamped() {
         int[] wanted = {Integer.MIN_VALUE, -1, 0, 1, 2, 3, 4, 5, 6, 7, 8, 100, Integer.MAX_VALUE};
         int[] kept = {2, 2, 2, 2, 2, 3, 4, 5, 6, 6, 6, 6, 6};
@@ -62,6 +67,12 @@ public final class RankingsTest {
         }
     }
 
+    /**
+     * Promise 2: "FULL when five are there; otherwise its number, which is the number of rankings
+     * there were."
+     * Promise 5: "The number of rankings."
+     * Terms: "There are at most five RANKINGS 0, 1, .."
+     */
     private static void beginCountsUp() {
         RankFusion x = new RankFusion(2);
         for (int k = 0; k < 5; k++) {
@@ -76,6 +87,11 @@ public final class RankingsTest {
         Check.due("begin(9) of a full object", x.begin(9), RankFusion.FULL);
     }
 
+    /**
+     * Promise 2: "Answers BAD when weight is not 1 .. 9"
+     * Promise 16: "begin: BAD is tested before FULL."
+     * The public face: the values of the constants.
+     */
     private static void beginRefuses() {
         int[] bad = {0, 10, 11, -1, -9, Integer.MIN_VALUE, Integer.MAX_VALUE};
         RankFusion x = new RankFusion(2);
@@ -93,6 +109,10 @@ public final class RankingsTest {
         Check.due("NONE", RankFusion.NONE, -1);
     }
 
+    /**
+     * Promise 2: "Begins a new ranking with this weight, naming nothing yet."
+     * Terms: "each with a weight (1 .. 9)"
+     */
     private static void beginNamesNothing() {
         for (int weight = 1; weight <= 9; weight++) {
             RankFusion x = new RankFusion(3);
@@ -104,6 +124,10 @@ public final class RankingsTest {
         }
     }
 
+    /**
+     * Promise 3: "Names document d next (after those named already) in ranking k."
+     * Terms: "a list of different documents, best first"
+     */
     private static void nameTakesTheNextPlace() {
         RankFusion x = new RankFusion(4);
         Check.rank(x, 1);
@@ -123,6 +147,10 @@ public final class RankingsTest {
         Check.due("prefers(3, 2)", x.prefers(3, 2), 3);
     }
 
+    /**
+     * Promise 3: "Answers true; false, changing nothing, when there is no ranking k, no document d, or
+     * k names d already."
+     */
     private static void nameRefuses() {
         RankFusion x = new RankFusion(4);
         Check.rank(x, 1, 2, 0);
@@ -147,6 +175,7 @@ public final class RankingsTest {
         }
     }
 
+    /** Promise 4: "Takes ranking k away; those with greater numbers move down by one." */
     private static void removeMovesDown() {
         for (int gone = 0; gone < 5; gone++) {
             RankFusion x = new RankFusion(6);
@@ -172,6 +201,7 @@ public final class RankingsTest {
         }
     }
 
+    /** Promises 3 and 4: "after those named already" holds also for a ranking that has moved down. */
     private static void movedRankingGoesOnWhereItWas() {
         RankFusion x = new RankFusion(5);
         Check.rank(x, 2, 4);
@@ -183,6 +213,7 @@ public final class RankingsTest {
         Check.due("prefers(4, 0), 0 not named", x.prefers(4, 0), 3);
     }
 
+    /** Promise 4: "Takes ranking k away" where it is the only one. */
     private static void removeTheLast() {
         RankFusion x = new RankFusion(2);
         Check.rank(x, 7, 1);
@@ -193,6 +224,7 @@ public final class RankingsTest {
         Check.due("rankings()", x.rankings(), 0);
     }
 
+    /** Promise 4: "Answers true; false, changing nothing, when there is no ranking k." */
     private static void removeRefuses() {
         RankFusion x = new RankFusion(3);
         Check.rank(x, 4, 0, 1);
@@ -205,6 +237,7 @@ public final class RankingsTest {
         }
     }
 
+    /** Promise 2: "naming nothing yet" where a ranking that named all was taken away. */
     private static void removedSlotIsCleanAgain() {
         RankFusion x = new RankFusion(3);
         Check.rank(x, 4, 2, 1, 0);
@@ -220,6 +253,10 @@ public final class RankingsTest {
         Check.due("prefers(2, 0)", x.prefers(2, 0), 8);
     }
 
+    /**
+     * Promise 16: "Where nothing else is said, a call that is refused (by a code below 0 that is named,
+     * or by false) changes nothing."
+     */
     private static void refusedCallsChangeNothing() {
         RankFusion x = Check.ring();
         Check.rank(x, 1, 3);
@@ -267,6 +304,7 @@ public final class RankingsTest {
         return answers;
     }
 
+    /** Promise 1: "No rankings." of a new object, whatever another one has. */
     private static void objectsAreApart() {
         RankFusion x = new RankFusion(3);
         RankFusion y = new RankFusion(3);

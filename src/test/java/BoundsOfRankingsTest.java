@@ -33,8 +33,8 @@ public final class BoundsOfRankingsTest {
         refusedChangesChangeNothing();
         refusedQuestionsChangeNothing();
         questionsChangeNothing();
-        everyCallIsRightAsTheLastOne();
-        sameQuestionUpToTheLastCall();
+        everyChangeIsRightAsTheLastOne();
+        everyQuestionIsRightAsTheLastOne();
         changesUpToTheLastCall();
         nameAsTheLastCall();
         callsAfterTheLastOneStillEnd();
@@ -434,25 +434,37 @@ public final class BoundsOfRankingsTest {
     }
 
     /** "An object is used for at most 512 calls after it has been made": the 512th is still right. */
-    private static void everyCallIsRightAsTheLastOne() {
-        lastCall("rankings()", RankFusion::rankings, 3);
+    private static void everyChangeIsRightAsTheLastOne() {
         lastCall("begin(9)", x -> x.begin(9), 3);
         lastCall("begin(10)", x -> x.begin(10), RankFusion.BAD);
         lastCall("name(2, 3) again", x -> x.name(2, 3) ? 1 : 0, 0);
         lastCall("remove(2)", x -> x.remove(2) ? 1 : 0, 1);
         lastCall("remove(3)", x -> x.remove(3) ? 1 : 0, 0);
-        lastCall("prefers(2, 0)", x -> x.prefers(2, 0), 7);
-        lastCall("least()", RankFusion::least, 10);
-        lastCall("bestAt(0)", x -> x.bestAt(0), 2);
-        lastCall("bestAt(3)", x -> x.bestAt(3), 3);
-        lastCall("leastWith(3, 2)", x -> x.leastWith(3, 2), 23);
-        lastCall("score(3)", x -> x.score(3), -27);
-        lastCall("score(4)", x -> x.score(4), -1000);
-        lastCall("scoreAt(2)", x -> x.scoreAt(2), 1);
-        lastCall("champion()", RankFusion::champion, RankFusion.NONE);
-        lastCall("topSet()", RankFusion::topSet, 7);
-        lastCall("strength(1, 0)", x -> x.strength(1, 0), 5);
-        lastCall("pathWinners()", RankFusion::pathWinners, 4);
+    }
+
+    /** The same sentence for the questions, after other calls and after the same one each time. */
+    private static void everyQuestionIsRightAsTheLastOne() {
+        lastQuestion("rankings()", RankFusion::rankings, 3);
+        lastQuestion("prefers(2, 0)", x -> x.prefers(2, 0), 7);
+        lastQuestion("least()", RankFusion::least, 10);
+        lastQuestion("bestAt(0)", x -> x.bestAt(0), 2);
+        lastQuestion("bestAt(3)", x -> x.bestAt(3), 3);
+        lastQuestion("leastWith(3, 2)", x -> x.leastWith(3, 2), 23);
+        lastQuestion("score(3)", x -> x.score(3), -27);
+        lastQuestion("score(4)", x -> x.score(4), -1000);
+        lastQuestion("scoreAt(2)", x -> x.scoreAt(2), 1);
+        lastQuestion("champion()", RankFusion::champion, RankFusion.NONE);
+        lastQuestion("topSet()", RankFusion::topSet, 7);
+        lastQuestion("strength(1, 0)", x -> x.strength(1, 0), 5);
+        lastQuestion("pathWinners()", RankFusion::pathWinners, 4);
+    }
+
+    private static void lastQuestion(String call, ToIntFunction<RankFusion> question, int want) {
+        lastCall(call, question, want);
+        RankFusion x = Check.ring();
+        for (int made = CALLS_OF_RING + 1; made <= CALLS; made++) {
+            Check.due(call + " as call " + made, question.applyAsInt(x), want);
+        }
     }
 
     private static void lastCall(String call, ToIntFunction<RankFusion> last, int want) {
@@ -478,28 +490,6 @@ public final class BoundsOfRankingsTest {
         }
         Check.due("rankings() as call 511 after " + kind, x.rankings(), 3);
         Check.due(call + " as call 512 after " + kind, last.applyAsInt(x), want);
-    }
-
-    /** The same sentence for one question that is asked again and again. */
-    private static void sameQuestionUpToTheLastCall() {
-        upToTheLastCall("rankings()", RankFusion::rankings, 3);
-        upToTheLastCall("prefers(2, 0)", x -> x.prefers(2, 0), 7);
-        upToTheLastCall("least()", RankFusion::least, 10);
-        upToTheLastCall("bestAt(1)", x -> x.bestAt(1), 0);
-        upToTheLastCall("leastWith(3, 2)", x -> x.leastWith(3, 2), 23);
-        upToTheLastCall("score(3)", x -> x.score(3), -27);
-        upToTheLastCall("scoreAt(2)", x -> x.scoreAt(2), 1);
-        upToTheLastCall("champion()", RankFusion::champion, RankFusion.NONE);
-        upToTheLastCall("topSet()", RankFusion::topSet, 7);
-        upToTheLastCall("strength(1, 0)", x -> x.strength(1, 0), 5);
-        upToTheLastCall("pathWinners()", RankFusion::pathWinners, 4);
-    }
-
-    private static void upToTheLastCall(String call, ToIntFunction<RankFusion> question, int want) {
-        RankFusion x = Check.ring();
-        for (int made = CALLS_OF_RING + 1; made <= CALLS; made++) {
-            Check.due(call + " as call " + made, question.applyAsInt(x), want);
-        }
     }
 
     /** The same sentence for changes: 512 calls of which three in four change the object. */

@@ -129,20 +129,20 @@ public final class PathsTest {
         Check.rank(x, 1, IntStream.of(six).filter(d -> d < documents).toArray());
     }
 
-    /** Promise 14: "the best path" of a step, a path that is weaker and one that is stronger. */
+    /** Promise 14: "the best path" where there are several: a step, and ways round by 1 or by 3. */
     private static void bestOfSeveralPaths() {
         RankFusion x = new RankFusion(4);
         Check.rank(x, 9, 0, 1, 3, 2);
-        Check.rank(x, 8, 3, 2, 0, 1);
-        Check.rank(x, 7, 1, 3, 2, 0);
-        // 0 to 1 has 17, 1 to 3 has 16 and 3 to 0 has 15; 3 to 2 has 24, and 2 to 0 has 15.
-        Check.due("strength(0, 3)", x.strength(0, 3), 16);
-        Check.due("strength(0, 2)", x.strength(0, 2), 16);
-        Check.due("strength(1, 2)", x.strength(1, 2), 16);
-        Check.due("strength(3, 2)", x.strength(3, 2), 24);
-        Check.due("strength(3, 0)", x.strength(3, 0), 15);
-        Check.due("strength(2, 1)", x.strength(2, 1), 15);
-        Check.due("pathWinners()", x.pathWinners(), 1);
+        Check.rank(x, 4, 2, 0, 1, 3);
+        Check.rank(x, 4, 1, 2, 0, 3);
+        Check.due("prefers(0, 2), the step", x.prefers(0, 2), 9);
+        Check.due("prefers(2, 0), so that 0 beats 2", x.prefers(2, 0), 8);
+        Check.due("strength(0, 1)", x.strength(0, 1), 13);
+        Check.due("strength(1, 2)", x.strength(1, 2), 13);
+        Check.due("strength(0, 3)", x.strength(0, 3), 17);
+        Check.due("strength(3, 2)", x.strength(3, 2), 9);
+        Check.due("strength(0, 2), by 1", x.strength(0, 2), 13);
+        Check.due("strength(2, 0)", x.strength(2, 0), 0);
     }
 
     /** Promise 14: "in which each one beats the next one" and "0 when there is no path" */
